@@ -1,0 +1,169 @@
+import java.util.Random;
+
+/** Promise 15, solve. */
+public final class SolveTest {
+    private static final String ROUND = "01230123012301230123";
+
+    public static void main(String[] args) {
+        notSolved();
+        wholeSuits();
+        finesse();
+        againstThePlainSearch();
+        bestCardKeepsTheAnswer();
+        Checks.end("SolveTest");
+    }
+
+    private static void notSolved() {
+        ShortBridge x = new ShortBridge();
+        x.deal(Checks.numberOf(ROUND), 0, 0);
+        Checks.refused("solve() in the auction", x, IllegalStateException.class, x::solve);
+        Checks.calls(x, 7, 0, 0, 0);
+        for (int c = 1; c <= 4; c++) {
+            Checks.refused("solve() with 5 cards", x, UnsupportedOperationException.class, x::solve);
+            x.play(c);
+        }
+        solvedAlone(x);
+        x.back();
+        Checks.refused("solve() with 5 cards again", x, UnsupportedOperationException.class, x::solve);
+        x.play(4);
+        for (int i = 0; i < 16; i++) {
+            solvedAlone(x);
+            Checks.playAny(x, 0);
+        }
+        Checks.refused("solve() when it is over", x, IllegalStateException.class, x::solve);
+        x.deal(0, 0, 0);
+        Checks.calls(x, 0, 0, 0, 0);
+        Checks.refused("solve() without a contract", x, IllegalStateException.class, x::solve);
+    }
+
+    /** The board is as it was behind the answer. */
+    private static void solvedAlone(ShortBridge x) {
+        String before = Checks.snapshot(x);
+        int first = x.solve();
+        Checks.due("the board behind solve()", Checks.snapshot(x), before);
+        Checks.due("solve() again", x.solve(), first);
+    }
+
+    /** Each player has a whole suit: who has the trumps takes all tricks, or, without trumps, the leader. */
+    private static void wholeSuits() {
+        wholeSuitsDue(3, 0, 5);
+        wholeSuitsDue(4, 0, 0);
+        wholeSuitsDue(5, 0, 5);
+        wholeSuitsDue(6, 0, 0);
+        wholeSuitsDue(7, 0, 0);
+        wholeSuitsDue(4, 1, 5);
+        wholeSuitsDue(5, 1, 0);
+        wholeSuitsDue(6, 3, 5);
+        wholeSuitsDue(7, 3, 0);
+    }
+
+    private static void wholeSuitsDue(int bid, int declarer, int tricks) {
+        ShortBridge x = new ShortBridge();
+        x.deal(0, declarer, 0);
+        Checks.calls(x, bid, 0, 0, 0);
+        for (int i = 0; i < 20; i++) {
+            if (i >= 4) {
+                Checks.due("solve() of bid " + bid + " by " + declarer, x.solve(), tricks);
+            }
+            Checks.playAny(x, 0);
+        }
+    }
+
+    /**
+     * Without trumps, after three tricks for side 0, player 2 leads with 1 and 15, player 0 has 2
+     * and 4, one opponent 0 and 3, the other one 13 and 18. If 3 lies before player 0, the lead of
+     * 1 takes both tricks, otherwise one.
+     */
+    private static void finesse() {
+        ShortBridge before = ending("32030003120311221312");
+        Checks.plays(before, 8, 9, 7, 5, 14, 11, 10, 12, 19, 17, 6, 16);
+        Checks.due("solve() with 3 before 4", before.solve(), 5);
+        before.play(15);
+        Checks.due("solve() behind the wrong lead", before.solve(), 3);
+        before.back();
+        Checks.plays(before, 1, 3);
+        Checks.due("solve() behind 3", before.solve(), 5);
+        before.play(2);
+        Checks.due("solve() behind the wrong card on 3", before.solve(), 4);
+        ShortBridge behind = ending("12010001320133223132");
+        Checks.plays(behind, 7, 9, 8, 5, 14, 12, 10, 11, 19, 16, 6, 17);
+        Checks.due("solve() with 3 behind 4", behind.solve(), 4);
+    }
+
+    private static ShortBridge ending(String owners) {
+        ShortBridge x = new ShortBridge();
+        x.deal(Checks.numberOf(owners), 0, 0);
+        Checks.calls(x, 7, 0, 0, 0);
+        return x;
+    }
+
+    private static void againstThePlainSearch() {
+        Random random = new Random(7);
+        for (int i = 0; i < 600; i++) {
+            ShortBridge x = new ShortBridge();
+            Model m = new Model();
+            long number = x.shuffle(random.nextLong(), i % 4, 0);
+            m.deal(number, i % 4, 0);
+            int bid = 3 + random.nextInt(15);
+            for (int c : new int[] {bid, 0, 0, 0}) {
+                x.call(c);
+                m.call(c);
+            }
+            // Endings of four cards a hand are dear for the plain search, so there are fewer of them.
+            int played = i < 100 ? 4 + random.nextInt(4) : 8 + random.nextInt(12);
+            for (int n = 0; n < played; n++) {
+                playBoth(x, m, random.nextInt(20));
+            }
+            Checks.due("solve() of deal " + number + " with bid " + bid + ", " + played + " cards played", x.solve(), m.solve());
+        }
+    }
+
+    private static void playBoth(ShortBridge x, Model m, int from) {
+        int player = x.turn();
+        String before = Checks.hand(x, player) + ",";
+        Checks.playAny(x, from);
+        for (String c : before.split(",")) {
+            if (!x.has(player, Integer.parseInt(c))) {
+                m.play(Integer.parseInt(c));
+            }
+        }
+    }
+
+    /** The best card of whoever is to play keeps the answer, and no card betters it for that side. */
+    private static void bestCardKeepsTheAnswer() {
+        Random random = new Random(8);
+        for (int i = 0; i < 300; i++) {
+            ShortBridge x = new ShortBridge();
+            x.shuffle(random.nextLong(), random.nextInt(4), 0);
+            Checks.calls(x, 3 + random.nextInt(15), 0, 0, 0);
+            while (x.phase() == 2) {
+                if (cardsLeft(x) <= 16) {
+                    Checks.due("solve() by its followers", x.solve(), bestFollower(x));
+                }
+                Checks.playAny(x, random.nextInt(20));
+            }
+        }
+    }
+
+    private static int cardsLeft(ShortBridge x) {
+        int n = 0;
+        for (int k = 0; k < 80; k++) {
+            n += x.has(k / 20, k % 20) ? 1 : 0;
+        }
+        return n;
+    }
+
+    private static int bestFollower(ShortBridge x) {
+        boolean own = x.turn() % 2 == x.contract(2) % 2;
+        int best = own ? -1 : 6;
+        for (int c = 0; c < 20; c++) {
+            int card = c;
+            if (Checks.answer(() -> x.play(card)).equals("nothing")) {
+                int n = x.phase() == 3 ? x.tricks(x.contract(2) % 2) : x.solve();
+                best = own ? Math.max(best, n) : Math.min(best, n);
+                x.back();
+            }
+        }
+        return best;
+    }
+}
