@@ -18,7 +18,6 @@ public final class ShortBridge {
     private final Deal dealt = new Deal();
     private final Auction auction = new Auction();
     private final Hands hands = new Hands();
-    private final Solver solver = new Solver(hands);
     private final Results results = new Results();
     private boolean hasBoard;
     private int vulnerability;
@@ -152,7 +151,7 @@ public final class ShortBridge {
         if (hands.count < PLAYERS) {
             throw new UnsupportedOperationException("some player has 5 cards");
         }
-        return solver.tricksOf(sideOf(auction.declarer()));
+        return Solver.tricksOf(hands, sideOf(auction.declarer()));
     }
 
     public int record() throws IllegalStateException, UnsupportedOperationException {
@@ -236,15 +235,15 @@ public final class ShortBridge {
             long ways = DEALS;
             for (int card = 0; card < CARDS; card++) {
                 int player = 0;
-                long share = share(ways, player, card);
-                while (player < PLAYERS - 1 && rest >= share) {
-                    rest -= share;
+                long part = share(ways, player, card);
+                while (player < PLAYERS - 1 && rest >= part) {
+                    rest -= part;
                     player++;
-                    share = share(ways, player, card);
+                    part = share(ways, player, card);
                 }
                 owners[card] = player;
                 left[player]--;
-                ways = share;
+                ways = part;
             }
         }
 
@@ -336,10 +335,16 @@ public final class ShortBridge {
         }
 
         boolean allows(int c) {
-            if (c >= FIRST_BID) {
-                return c > bid();
+            switch (c) {
+                case PASS:
+                    return true;
+                case DOUBLE:
+                    return latestOfOthers() >= FIRST_BID;
+                case REDOUBLE:
+                    return latestOfOthers() == DOUBLE;
+                default:
+                    return c > bid();
             }
-            return c == PASS || isAnswerable(latest(DOUBLE), c);
         }
 
         void add(int c) {
@@ -356,26 +361,26 @@ public final class ShortBridge {
         }
 
         boolean hasEnded() {
-            int at = latest(DOUBLE);
+            int at = placeOfLatest(DOUBLE);
             int passes = count - 1 - at;
             return passes >= (at == NONE ? 4 : 3);
         }
 
         int bid() {
-            int at = latest(FIRST_BID);
+            int at = placeOfLatest(FIRST_BID);
             return at == NONE ? NONE : calls[at];
         }
 
         int doubled() {
-            int at = latest(DOUBLE);
+            int at = placeOfLatest(DOUBLE);
             if (at == NONE || calls[at] >= FIRST_BID) {
                 return 0;
             }
-            return calls[at] == DOUBLE ? 1 : 2;
+            return calls[at] == REDOUBLE ? 2 : 1;
         }
 
         int declarer() {
-            int last = latest(FIRST_BID);
+            int last = placeOfLatest(FIRST_BID);
             if (last == NONE) {
                 return NONE;
             }
@@ -387,16 +392,15 @@ public final class ShortBridge {
             return callerOf(last);
         }
 
-        private boolean isAnswerable(int at, int c) {
-            if (at == NONE || isSameSide(at, count)) {
-                return false;
-            }
-            return c == DOUBLE ? calls[at] >= FIRST_BID : calls[at] == DOUBLE;
+        private int latestOfOthers() {
+            int at = placeOfLatest(DOUBLE);
+            return at == NONE || isSameSide(at, count) ? NONE : calls[at];
         }
 
-        private int latest(int leastCall) {
+        // With DOUBLE as the least call, every call counts that is no pass.
+        private int placeOfLatest(int least) {
             for (int at = count - 1; at >= 0; at--) {
-                if (calls[at] >= leastCall) {
+                if (calls[at] >= least) {
                     return at;
                 }
             }
@@ -425,10 +429,6 @@ public final class ShortBridge {
         private int count;
         private int trump = NO_TRUMP;
 
-        static int suit(int card) {
-            return card / RANKS;
-        }
-
         void take(Deal deal) {
             for (int player = 0; player < PLAYERS; player++) {
                 takeHand(deal, player);
@@ -446,7 +446,7 @@ public final class ShortBridge {
         }
 
         int player() {
-            return playerOf(count);
+            return playerBehind(leaders[count / PLAYERS], count % PLAYERS);
         }
 
         boolean holds(int player, int card) {
@@ -459,7 +459,7 @@ public final class ShortBridge {
             if (inTrick == 0) {
                 return hand;
             }
-            int following = hand & (SUIT_BITS << (RANKS * suit(played[count - inTrick])));
+            int following = hand & (SUIT_BITS << (played[count - inTrick] / RANKS * RANKS));
             return following == 0 ? hand : following;
         }
 
@@ -473,7 +473,7 @@ public final class ShortBridge {
                 played[count] = card;
                 count++;
                 if (count % PLAYERS == 0) {
-                    leaders[count / PLAYERS] = winnerOfLastTrick();
+                    leaders[count / PLAYERS] = winnerOf(count / PLAYERS - 1);
                 }
             }
         }
@@ -521,43 +521,30 @@ public final class ShortBridge {
             }
         }
 
-        private int playerOf(int at) {
-            return playerBehind(leaders[at / PLAYERS], at % PLAYERS);
-        }
-
-        private int winnerOfLastTrick() {
-            int best = count - PLAYERS;
-            for (int at = best + 1; at < count; at++) {
-                if (beats(played[at], played[best])) {
-                    best = at;
+        private int winnerOf(int trick) {
+            int first = trick * PLAYERS;
+            int best = 0;
+            for (int i = 1; i < PLAYERS; i++) {
+                if (beats(played[first + i], played[first + best])) {
+                    best = i;
                 }
             }
-            return playerOf(best);
+            return playerBehind(leaders[trick], best);
         }
 
         private boolean beats(int card, int best) {
-            return suit(card) == suit(best) ? card > best : suit(card) == trump;
+            int suit = card / RANKS;
+            return suit == best / RANKS ? card > best : suit == trump;
         }
     }
 
-    /** Finds what an ending is worth by trying all ways to play it. */
+    /** Finds what an ending is worth by trying the ways to play it. */
     private static final class Solver {
-        private final Hands hands;
-        private int side;
-
-        Solver(Hands cards) {
-            hands = cards;
-        }
-
-        int tricksOf(int declarersSide) {
-            side = declarersSide;
+        static int tricksOf(Hands hands, int side) {
             int cardsLeft = CARDS - hands.count;
             int more = 0;
-            for (int need = 1; need <= tricksIn(cardsLeft); need++) {
-                if (!reaches(need, cardsLeft)) {
-                    break;
-                }
-                more = need;
+            while (more < tricksIn(cardsLeft) && reaches(hands, side, more + 1, cardsLeft)) {
+                more++;
             }
             return hands.won(side) + more;
         }
@@ -566,22 +553,21 @@ public final class ShortBridge {
             return (cardsLeft + PLAYERS - 1) / PLAYERS;
         }
 
-        private boolean reaches(int need, int cardsLeft) {
-            if (need <= 0) {
-                return true;
-            }
-            if (need > tricksIn(cardsLeft)) {
-                return false;
+        // Whether the side can get so many tricks more. No card left means no trick to be had, which
+        // ends the search.
+        private static boolean reaches(Hands hands, int side, int need, int cardsLeft) {
+            if (need <= 0 || need > tricksIn(cardsLeft)) {
+                return need <= 0;
             }
             int player = hands.player();
             boolean isOwnTurn = sideOf(player) == side;
             int allowed = hands.allowed();
             int live = hands.live();
             int higher = NONE;
-            for (int i = 0; i < HAND; i++) {
-                int card = hands.cards[player * HAND + i];
+            for (int place = player * HAND; place < (player + 1) * HAND; place++) {
+                int card = hands.cards[place];
                 if (((allowed >> card) & 1) == 1) {
-                    if (!areAlike(card, higher, live) && reachesWith(card, need, cardsLeft) == isOwnTurn) {
+                    if (!areAlike(card, higher, live) && reachesWith(card, hands, side, need, cardsLeft) == isOwnTurn) {
                         return isOwnTurn;
                     }
                     higher = card;
@@ -590,25 +576,22 @@ public final class ShortBridge {
             return !isOwnTurn;
         }
 
-        // Two cards of a hand win and lose against the same cards if no live card lies between them,
-        // so it is enough to try one of them.
-        private static boolean areAlike(int card, int higher, int live) {
-            if (higher == NONE || Hands.suit(card) != Hands.suit(higher)) {
-                return false;
-            }
-            int between = (1 << higher) - (1 << (card + 1));
-            return (live & between) == 0;
-        }
-
-        private boolean reachesWith(int card, int need, int cardsLeft) {
+        private static boolean reachesWith(int card, Hands hands, int side, int need, int cardsLeft) {
             hands.put(card);
-            boolean answer = reaches(need - newTrick(), cardsLeft - 1);
+            boolean isTrickWon = hands.count % PLAYERS == 0 && sideOf(hands.player()) == side;
+            boolean answer = reaches(hands, side, isTrickWon ? need - 1 : need, cardsLeft - 1);
             hands.takeBack();
             return answer;
         }
 
-        private int newTrick() {
-            return hands.count % PLAYERS == 0 && sideOf(hands.player()) == side ? 1 : 0;
+        // Two cards of a hand win and lose against the same cards if no live card lies between them,
+        // so it is enough to try one of them.
+        private static boolean areAlike(int card, int higher, int live) {
+            if (higher == NONE || card / RANKS != higher / RANKS) {
+                return false;
+            }
+            int between = (1 << higher) - (1 << (card + 1));
+            return (live & between) == 0;
         }
     }
 
