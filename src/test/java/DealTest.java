@@ -10,6 +10,7 @@ public final class DealTest {
         numbersAreInOrder();
         numbersByCounting();
         shuffles();
+        oneObjectForManyDeals();
         refusedDeals();
         refusedShuffles();
         newBoardInPlaceOfAnother();
@@ -51,6 +52,18 @@ public final class DealTest {
         }
         shuffleOf(Long.MIN_VALUE, 0, 0);
         shuffleOf(Long.MAX_VALUE, 3, 3);
+    }
+
+    private static void oneObjectForManyDeals() {
+        Random random = new Random(9);
+        ShortBridge x = new ShortBridge();
+        for (int i = 0; i < 200; i++) {
+            long seed = random.nextLong();
+            long number = x.shuffle(seed, 0, 0);
+            Checks.due("hands of shuffle(" + seed + ") again", owners(x), shuffled(seed));
+            x.deal(LAST - number, 0, 0);
+            Checks.due("hands of deal(" + (LAST - number) + ") again", owners(x), ownersOf(LAST - number));
+        }
     }
 
     private static void shuffleOf(long seed, int dealer, int vulnerable) {

@@ -1,5 +1,6 @@
 import java.math.BigInteger;
 import java.util.ArrayList;
+import java.util.Collections;
 import java.util.List;
 import java.util.NoSuchElementException;
 
@@ -8,6 +9,10 @@ import java.util.NoSuchElementException;
  * answer is found by going through them from the start.
  */
 final class Model {
+    private static final int[] STEPS = {
+        20, 50, 90, 130, 170, 220, 270, 320, 370, 430, 500, 600, 750, 900, 1100, 1300, 1500, 1750, 2000
+    };
+
     private String owners;
     private long number = -1;
     private int dealer;
@@ -35,7 +40,7 @@ final class Model {
         long h = seed;
         for (int i = 19; i >= 1; i--) {
             h = h * 6364136223846793005L + 1442695040888963407L;
-            java.util.Collections.swap(row, i, (int) ((h >>> 33) % (i + 1)));
+            Collections.swap(row, i, (int) ((h >>> 33) % (i + 1)));
         }
         StringBuilder s = new StringBuilder();
         for (int c = 0; c < 20; c++) {
@@ -184,7 +189,7 @@ final class Model {
     int points(int i, int j) {
         long a = results.get(i)[0] - results.get(j)[0];
         int n = 0;
-        for (int step : new int[] {20, 50, 90, 130, 170, 220, 270, 320, 370, 430, 500, 600, 750, 900, 1100, 1300, 1500, 1750, 2000}) {
+        for (int step : STEPS) {
             n += step <= Math.abs(a) ? 1 : 0;
         }
         return a < 0 ? -n : n;

@@ -8,6 +8,7 @@ public final class SolveTest {
         notSolved();
         wholeSuits();
         finesse();
+        cardsOnTheTable();
         againstThePlainSearch();
         bestCardKeepsTheAnswer();
         Checks.end("SolveTest");
@@ -90,6 +91,35 @@ public final class SolveTest {
         Checks.due("solve() with 3 behind 4", behind.solve(), 4);
     }
 
+    /** Two cards of a hand are not alike while one that lies between them is on the table. */
+    private static void cardsOnTheTable() {
+        endingDue(11036201335L, 3, 0, 13, 10, 11, 9, 3);
+        endingDue(1918417723L, 7, 2, 4, 1, 3, 0, 16);
+        endingDue(5704128633L, 4, 2, 0, 12, 2, 3);
+        endingDue(632494188L, 7, 5, 1, 4, 6, 0, 8, 7, 9, 5, 18);
+        endingDue(10217858726L, 7, 2, 16, 15, 0, 18);
+        endingDue(6759742053L, 7, 3, 4, 0, 8, 2);
+        endingDue(3004460949L, 5, 3, 9, 6, 8, 5, 0, 3, 16);
+        endingDue(1765828018L, 5, 4, 19, 17, 16, 18, 11);
+    }
+
+    private static void endingDue(long number, int bid, int tricks, int... cards) {
+        ShortBridge x = new ShortBridge();
+        Model m = new Model();
+        x.deal(number, 0, 0);
+        m.deal(number, 0, 0);
+        for (int c : new int[] {bid, 0, 0, 0}) {
+            x.call(c);
+            m.call(c);
+        }
+        for (int c : cards) {
+            x.play(c);
+            m.play(c);
+        }
+        Checks.due("solve() of deal " + number + " with bid " + bid, x.solve(), tricks);
+        Checks.due("the plain search in deal " + number + " with bid " + bid, m.solve(), tricks);
+    }
+
     private static ShortBridge ending(String owners) {
         ShortBridge x = new ShortBridge();
         x.deal(Checks.numberOf(owners), 0, 0);
@@ -114,7 +144,8 @@ public final class SolveTest {
             for (int n = 0; n < played; n++) {
                 playBoth(x, m, random.nextInt(20));
             }
-            Checks.due("solve() of deal " + number + " with bid " + bid + ", " + played + " cards played", x.solve(), m.solve());
+            String what = "solve() of deal " + number + " with bid " + bid + ", " + played + " cards played";
+            Checks.due(what, x.solve(), m.solve());
         }
     }
 
