@@ -49,6 +49,18 @@ final class Checks {
         });
     }
 
+    /** The test of one sentence of the document: what is not as due is told above the sentence that it breaks. */
+    static void sentence(String words, Action test) {
+        int checkedBefore = checked;
+        int wrongBefore = wrong;
+        String end = answer(test);
+        due("whether something was looked at", checked > checkedBefore, true);
+        due("the end of the test", end, "nothing");
+        if (wrong > wrongBefore) {
+            System.out.println("broken: " + words);
+        }
+    }
+
     /** The call throws this exception and leaves the board as it was. */
     static void refused(String what, ShortBridge x, Class<?> exception, Action call) {
         String before = snapshot(x);

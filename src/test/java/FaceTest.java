@@ -4,7 +4,7 @@ import java.lang.reflect.Method;
 import java.lang.reflect.Modifier;
 import java.util.TreeSet;
 
-/** Promise 1, a new object, and the class as it must stand. */
+/** The public face: the class as it must stand. */
 public final class FaceTest {
     private static final String[] METHODS = {
         "boolean back()",
@@ -27,9 +27,9 @@ public final class FaceTest {
     };
 
     public static void main(String[] args) {
-        members();
-        newObject();
-        objectsAreApart();
+        Checks.sentence("The public face", FaceTest::members);
+        Checks.sentence("An object is used for at most 512 calls after it has been made", FaceTest::callsUpTo512);
+        Checks.sentence("(one object knows nothing of another)", FaceTest::objectsAreApart);
         Checks.end("FaceTest");
     }
 
@@ -80,31 +80,35 @@ public final class FaceTest {
         return s.toString();
     }
 
-    private static void newObject() {
+    /** The longest auction, but for its last pass, forward and back in turn; the 512th call must still be right. */
+    private static void callsUpTo512() {
         ShortBridge x = new ShortBridge();
-        Checks.due("phase()", x.phase(), 0);
-        Checks.due("turn()", x.turn(), -1);
-        Checks.due("number()", x.number(), -1);
-        for (int p = 0; p < 4; p++) {
-            Checks.due("hand of " + p, Checks.hand(x, p), "");
+        x.deal(77, 0, 0);
+        int made = 1;
+        boolean isForward = true;
+        int standing = 0;
+        while (made < 511) {
+            if (isForward) {
+                x.call(callOfLongestAuction(standing));
+                standing++;
+            } else {
+                Checks.due("back() as call " + made, x.back(), true);
+                standing--;
+            }
+            made++;
+            isForward = standing == 0 || isForward && standing < 138;
         }
-        for (int i = -1; i < 5; i++) {
-            Checks.due("contract(" + i + ")", x.contract(i), -1);
-            Checks.due("table(" + i + ")", x.table(i), -1);
+        Checks.due("the 512th call", x.turn(), standing % 4);
+    }
+
+    /** Three passes, then each bid, its double and its redouble with two passes behind. */
+    private static int callOfLongestAuction(int at) {
+        int place = at - 3;
+        if (place < 0 || place % 3 != 0) {
+            return 0;
         }
-        Checks.due("tricks(0)", x.tricks(0), 0);
-        Checks.due("tricks(1)", x.tricks(1), 0);
-        Checks.due("tricks(2)", x.tricks(2), -1);
-        Checks.due("back()", x.back(), false);
-        Checks.refused("call(0)", x, IllegalStateException.class, () -> x.call(0));
-        Checks.refused("call(99)", x, IllegalStateException.class, () -> x.call(99));
-        Checks.refused("play(0)", x, IllegalStateException.class, () -> x.play(0));
-        Checks.refused("play(99)", x, IllegalStateException.class, () -> x.play(99));
-        Checks.refused("score()", x, IllegalStateException.class, x::score);
-        Checks.refused("solve()", x, IllegalStateException.class, x::solve);
-        Checks.refused("record()", x, IllegalStateException.class, x::record);
-        Checks.refused("points(0, 0)", x, IndexOutOfBoundsException.class, () -> x.points(0, 0));
-        Checks.refused("places(0)", x, IndexOutOfBoundsException.class, () -> x.places(0));
+        int kind = place / 3 % 3;
+        return kind == 0 ? 3 + place / 9 : kind;
     }
 
     private static void objectsAreApart() {

@@ -1,52 +1,20 @@
 import java.util.Random;
 
-/** Promise 15, solve. */
-public final class SolveTest {
-    private static final String ROUND = "01230123012301230123";
-
+/** Terms: solved. */
+public final class SolvedTermsTest {
     public static void main(String[] args) {
-        notSolved();
-        wholeSuits();
-        finesse();
-        cardsOnTheTable();
-        againstThePlainSearch();
-        bestCardKeepsTheAnswer();
-        Checks.end("SolveTest");
+        Checks.sentence("SOLVED, in the play, is how many of all five tricks declarer's side will have",
+            SolvedTermsTest::tricksOfAllFive);
+        Checks.sentence("if from here on", SolvedTermsTest::fromHereOn);
+        Checks.sentence("every player plays, knowing all cards", SolvedTermsTest::knowingAllCards);
+        Checks.sentence("so that the own side gets as many as it can", SolvedTermsTest::asManyAsItCan);
+        Checks.sentence("(cards that lie on the table)", SolvedTermsTest::cardsOnTheTable);
+        Checks.sentence("(endings by chance, against a search without any cut)", SolvedTermsTest::againstThePlainSearch);
+        Checks.end("SolvedTermsTest");
     }
 
-    private static void notSolved() {
-        ShortBridge x = new ShortBridge();
-        x.deal(Checks.numberOf(ROUND), 0, 0);
-        Checks.refused("solve() in the auction", x, IllegalStateException.class, x::solve);
-        Checks.calls(x, 7, 0, 0, 0);
-        for (int c = 1; c <= 4; c++) {
-            Checks.refused("solve() with 5 cards", x, UnsupportedOperationException.class, x::solve);
-            x.play(c);
-        }
-        solvedAlone(x);
-        x.back();
-        Checks.refused("solve() with 5 cards again", x, UnsupportedOperationException.class, x::solve);
-        x.play(4);
-        for (int i = 0; i < 16; i++) {
-            solvedAlone(x);
-            Checks.playAny(x, 0);
-        }
-        Checks.refused("solve() when it is over", x, IllegalStateException.class, x::solve);
-        x.deal(0, 0, 0);
-        Checks.calls(x, 0, 0, 0, 0);
-        Checks.refused("solve() without a contract", x, IllegalStateException.class, x::solve);
-    }
-
-    /** The board is as it was behind the answer. */
-    private static void solvedAlone(ShortBridge x) {
-        String before = Checks.snapshot(x);
-        int first = x.solve();
-        Checks.due("the board behind solve()", Checks.snapshot(x), before);
-        Checks.due("solve() again", x.solve(), first);
-    }
-
-    /** Each player has a whole suit: who has the trumps takes all tricks, or, without trumps, the leader. */
-    private static void wholeSuits() {
+    /** In deal 0 who has the trumps takes all tricks, or, without trumps, the leader: 0 and 5 are the bounds. */
+    private static void tricksOfAllFive() {
         wholeSuitsDue(3, 0, 5);
         wholeSuitsDue(4, 0, 0);
         wholeSuitsDue(5, 0, 5);
@@ -59,9 +27,7 @@ public final class SolveTest {
     }
 
     private static void wholeSuitsDue(int bid, int declarer, int tricks) {
-        ShortBridge x = new ShortBridge();
-        x.deal(0, declarer, 0);
-        Checks.calls(x, bid, 0, 0, 0);
+        ShortBridge x = Boards.playing(Boards.WHOLE_SUITS, declarer, bid);
         for (int i = 0; i < 20; i++) {
             if (i >= 4) {
                 Checks.due("solve() of bid " + bid + " by " + declarer, x.solve(), tricks);
@@ -70,14 +36,37 @@ public final class SolveTest {
         }
     }
 
+    /** Tricks that are lost or won count as they are; before the last card the answer is the end's. */
+    private static void fromHereOn() {
+        Random random = new Random(11);
+        for (int i = 0; i < 100; i++) {
+            ShortBridge x = new ShortBridge();
+            x.shuffle(random.nextLong(), i % 4, 0);
+            Checks.calls(x, 3 + i % 15, 0, 0, 0);
+            for (int n = 0; n < 16; n++) {
+                Checks.playAny(x, random.nextInt(20));
+            }
+            int side = x.contract(2) % 2;
+            int before = x.tricks(side);
+            int[] solved = new int[4];
+            for (int n = 0; n < 4; n++) {
+                solved[n] = x.solve();
+                Checks.playAny(x, 0);
+            }
+            for (int n = 0; n < 4; n++) {
+                Checks.due("solve() " + (4 - n) + " cards before the end", solved[n], x.tricks(side));
+            }
+            Checks.due("one trick at most in one", x.tricks(side) - before <= 1, true);
+        }
+    }
+
     /**
      * Without trumps, after three tricks for side 0, player 2 leads with 1 and 15, player 0 has 2
      * and 4, one opponent 0 and 3, the other one 13 and 18. If 3 lies before player 0, the lead of
      * 1 takes both tricks, otherwise one.
      */
-    private static void finesse() {
-        ShortBridge before = ending("32030003120311221312");
-        Checks.plays(before, 8, 9, 7, 5, 14, 11, 10, 12, 19, 17, 6, 16);
+    private static void knowingAllCards() {
+        ShortBridge before = Boards.playing("32030003120311221312", 0, 7, 8, 9, 7, 5, 14, 11, 10, 12, 19, 17, 6, 16);
         Checks.due("solve() with 3 before 4", before.solve(), 5);
         before.play(15);
         Checks.due("solve() behind the wrong lead", before.solve(), 3);
@@ -86,9 +75,38 @@ public final class SolveTest {
         Checks.due("solve() behind 3", before.solve(), 5);
         before.play(2);
         Checks.due("solve() behind the wrong card on 3", before.solve(), 4);
-        ShortBridge behind = ending("12010001320133223132");
-        Checks.plays(behind, 7, 9, 8, 5, 14, 12, 10, 11, 19, 16, 6, 17);
+        ShortBridge behind = Boards.playing("12010001320133223132", 0, 7, 7, 9, 8, 5, 14, 12, 10, 11, 19, 16, 6, 17);
         Checks.due("solve() with 3 behind 4", behind.solve(), 4);
+    }
+
+    /** The best card of whoever is to play keeps the answer, and no card betters it for that side. */
+    private static void asManyAsItCan() {
+        Random random = new Random(8);
+        for (int i = 0; i < 300; i++) {
+            ShortBridge x = new ShortBridge();
+            x.shuffle(random.nextLong(), random.nextInt(4), 0);
+            Checks.calls(x, 3 + random.nextInt(15), 0, 0, 0);
+            while (x.phase() == 2) {
+                if (Boards.owners(x).length() <= 16) {
+                    Checks.due("solve() by its followers", x.solve(), bestFollower(x));
+                }
+                Checks.playAny(x, random.nextInt(20));
+            }
+        }
+    }
+
+    private static int bestFollower(ShortBridge x) {
+        boolean own = x.turn() % 2 == x.contract(2) % 2;
+        int best = own ? -1 : 6;
+        for (int c = 0; c < 20; c++) {
+            int card = c;
+            if (Checks.answer(() -> x.play(card)).equals("nothing")) {
+                int n = x.phase() == 3 ? x.tricks(x.contract(2) % 2) : x.solve();
+                best = own ? Math.max(best, n) : Math.min(best, n);
+                x.back();
+            }
+        }
+        return best;
     }
 
     /** Two cards of a hand are not alike while one that lies between them is on the table. */
@@ -120,13 +138,6 @@ public final class SolveTest {
         Checks.due("the plain search in deal " + number + " with bid " + bid, m.solve(), tricks);
     }
 
-    private static ShortBridge ending(String owners) {
-        ShortBridge x = new ShortBridge();
-        x.deal(Checks.numberOf(owners), 0, 0);
-        Checks.calls(x, 7, 0, 0, 0);
-        return x;
-    }
-
     private static void againstThePlainSearch() {
         Random random = new Random(7);
         for (int i = 0; i < 600; i++) {
@@ -151,50 +162,12 @@ public final class SolveTest {
 
     private static void playBoth(ShortBridge x, Model m, int from) {
         int player = x.turn();
-        String before = Checks.hand(x, player) + ",";
+        String before = Checks.hand(x, player);
         Checks.playAny(x, from);
         for (String c : before.split(",")) {
             if (!x.has(player, Integer.parseInt(c))) {
                 m.play(Integer.parseInt(c));
             }
         }
-    }
-
-    /** The best card of whoever is to play keeps the answer, and no card betters it for that side. */
-    private static void bestCardKeepsTheAnswer() {
-        Random random = new Random(8);
-        for (int i = 0; i < 300; i++) {
-            ShortBridge x = new ShortBridge();
-            x.shuffle(random.nextLong(), random.nextInt(4), 0);
-            Checks.calls(x, 3 + random.nextInt(15), 0, 0, 0);
-            while (x.phase() == 2) {
-                if (cardsLeft(x) <= 16) {
-                    Checks.due("solve() by its followers", x.solve(), bestFollower(x));
-                }
-                Checks.playAny(x, random.nextInt(20));
-            }
-        }
-    }
-
-    private static int cardsLeft(ShortBridge x) {
-        int n = 0;
-        for (int k = 0; k < 80; k++) {
-            n += x.has(k / 20, k % 20) ? 1 : 0;
-        }
-        return n;
-    }
-
-    private static int bestFollower(ShortBridge x) {
-        boolean own = x.turn() % 2 == x.contract(2) % 2;
-        int best = own ? -1 : 6;
-        for (int c = 0; c < 20; c++) {
-            int card = c;
-            if (Checks.answer(() -> x.play(card)).equals("nothing")) {
-                int n = x.phase() == 3 ? x.tricks(x.contract(2) % 2) : x.solve();
-                best = own ? Math.max(best, n) : Math.min(best, n);
-                x.back();
-            }
-        }
-        return best;
     }
 }
